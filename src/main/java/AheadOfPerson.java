@@ -847,13 +847,11 @@ public final class AheadOfPerson {
         }
 
         private void takesClosing() {
-            settle(NOT);
             for (int i = 0; i < MOST_OPEN && brackets > 0 && takes(')'); i++) {
                 settle(OR);
                 top--;
                 open--;
                 brackets--;
-                settle(NOT);
             }
         }
 

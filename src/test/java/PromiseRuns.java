@@ -117,6 +117,7 @@ public final class PromiseRuns {
     private static void towns() {
         faults();
         lastBored();
+        oneBehindAnother();
         AheadOfPerson x = new AheadOfPerson();
         due("town bored 7", town(x, "bored 7"), 0);
         due("told(1)", x.told(1), 7);
@@ -132,8 +133,32 @@ public final class PromiseRuns {
         due("fifth", town(x, "bored 5"), 4);
         feed(x, "?");
         due("FULL, ahead of a fault", x.town(), -4);
+        due("FULL, ahead of all, again", x.town(), -4);
         due("THE TAPE stays", x.count(6), 1);
         due("told(1) behind FULL", x.told(1), 5);
+    }
+
+    /** What was read ahead of it, a FAULT above all, leaves nothing in the next. */
+    private static void oneBehindAnother() {
+        AheadOfPerson x = new AheadOfPerson();
+        x.person(0, 0, 0);
+        due("hope 9 c=0", town(x, "hope 9 c=0"), 0);
+        due("LURE", x.of(0, 10), 15);
+        due("hope 1 c=0", town(x, "hope 1 c=0"), 1);
+        due("LURE by the newest alone", x.of(0, 10), 7);
+        due("a fault at 13", town(x, "hope 9 !c=1;("), -22);
+        due("LURE by the one that held", x.of(0, 10), 7);
+        due("open at the end", town(x, "shy 1 (((((p=1"), -24);
+        due("open at the end again", town(x, "shy 1 !!(!(p=1|p=2&"), -29);
+        due("five open", town(x, "shy 1 (((((p=0)))))&!!!!!p=1"), 2);
+        due("LURE by the newest", x.of(0, 10), 5);
+        due("no ( open", town(x, "shy 1 p=0)"), -19);
+        due("bored in a fault", town(x, "bored 9;"), -18);
+        due("BORED without", x.told(1), 2);
+        due("hope 2 s=0", town(x, "hope 2 s=0"), 3);
+        due("LURE at STEP 0", x.of(0, 10), 8);
+        x.pass(1);
+        due("LURE at STEP 1", x.of(0, 10), 6);
     }
 
     private static void fault(String text, int at) {
@@ -375,6 +400,7 @@ public final class PromiseRuns {
         due("person -1", x.move(-1, 0), -1);
         due("refusals change nothing", x.of(0, 2), 0);
         due("TUG goes by the new CELL", x.of(0, 45), 6 - 12);
+        due("and so does THE CARPET", x.pass(20), 0);
     }
 
     private static void aways() {
@@ -418,6 +444,11 @@ public final class PromiseRuns {
         due("DRAW less BORED times LAIN", x.told(18), (6 - 8) + (6 - 2) - 3);
         x.away(1, true);
         due("DRAW without one", x.told(18), (6 - 8) - 3);
+        AheadOfPerson y = new AheadOfPerson();
+        y.pass(1);
+        due("on one, CELL 0", y.told(3), 1);
+        due("LAIN of 0 now", y.told(30), 1);
+        due("DRAW of 0 now", y.told(10), -2);
         for (int what : new int[] {-1, 4, 9, 26, 29, 46, LOW, HIGH}) {
             due("told(" + what + ")", x.told(what), -999999);
         }
@@ -480,6 +511,7 @@ public final class PromiseRuns {
             due("on(61, " + what + ")", x.on(61, what), -1);
         }
         due("nothing is changed", x.told(0) + x.told(2) + x.told(3), 0);
+        due("CELL 0 counts", new AheadOfPerson().on(1, 1), 1);
         beyond();
     }
 
@@ -508,7 +540,29 @@ public final class PromiseRuns {
         due("a PLAN leaves, too", x.done(0), 14);
     }
 
+    /** CELL 0 holds it by h + 2 of LAIN more than CELL 1, to which it then comes behind h + 4 STEPS. */
+    private static AheadOfPerson held(int h) {
+        AheadOfPerson x = new AheadOfPerson();
+        town(x, "bored 1;hope " + h + " c=0");
+        x.person(0, 0, 0);
+        x.person(0, 0, 1);
+        x.away(1, true);
+        return x;
+    }
+
+    /** CELLS 11 and 14 hold it: from there it comes to CELL 15 behind h STEPS. */
+    private static AheadOfPerson gated(int h) {
+        AheadOfPerson x = new AheadOfPerson();
+        town(x, "bored 1;shy 5 k=2;hope " + h + " c=11|c=14");
+        x.person(0, 0, 15);
+        x.person(2, 0, 0);
+        return x;
+    }
+
     private static void finds() {
+        due("behind 30", held(26).finds(1), 30);
+        due("behind 60", held(56).finds(1), 60);
+        due("behind 61: not by then", held(57).finds(1), NEVER);
         AheadOfPerson x = two();
         x.person(0, 0, 0);
         due("itself, now", x.finds(2), 0);
@@ -546,6 +600,10 @@ public final class PromiseRuns {
         due("from none", x.soonest(0, 0), NEVER);
         due("from none, by how many", x.soonest(0, 1), NEVER);
         due("just from 6, and 3: the first", x.soonest(7, 0), 3);
+        due("behind 30, which: 7 is as soon as 11", gated(30).soonest(15, 0), 7);
+        due("behind 30", gated(30).soonest(15, 1), 30);
+        due("behind 31: from none by then", gated(31).soonest(15, 0), NEVER);
+        due("from the last alone", corner().soonest(14, 1), 1);
         due("cell 16", x.soonest(16, 0), -1);
         due("cell -1", x.soonest(-1, 1), -1);
         due("what 2", x.soonest(0, 2), -1);
@@ -576,6 +634,19 @@ public final class PromiseRuns {
         due("100 times its number", x.call(15), 115);
         x.away(0, false);
         due("either: the first", x.call(10), 2);
+        AheadOfPerson y = two();
+        y.lay(1);
+        due("0 to CELL 0", y.call(0), 0);
+        y = patient();
+        y.person(0, 0, 0);
+        y.person(0, 0, 0);
+        due("both alone would do, not one", y.call(15), NEVER);
+        y = gated(31);
+        y.lay(11);
+        due("behind 30, a STEP sooner", y.call(15), 111);
+        y = gated(32);
+        y.lay(11);
+        due("behind 31: none", y.call(15), NEVER);
         due("cell 16", x.call(16), -1);
         due("cell -1", x.call(-1), -1);
         due("nothing is changed", x.of(0, 2) * 100 + x.of(1, 2), 1213);
@@ -603,6 +674,10 @@ public final class PromiseRuns {
         y.person(0, 0, 12);
         y.person(0, 0, 3);
         due("of several the least as bits", y.kept(1), 1);
+        due("each set from now on", two().kept(8), 2);
+        due("behind 30, and without 0, too", held(26).kept(1), NEVER);
+        due("behind 31", held(27).kept(1), 0);
+        due("behind 1", corner().kept(1), 1);
     }
 
     private static void walks() {
@@ -733,6 +808,10 @@ public final class PromiseRuns {
         due("below", x.odds(15, 6, 1), 2);
         due("12 above", x.odds(12, 60, 0), 1);
         due("12 below", x.odds(12, 60, 1), 2);
+        due("each from now on, above", x.odds(3, 3, 0), 1);
+        due("each from now on, below", x.odds(3, 3, 1), 2);
+        due("just one, above", corner().odds(0, 60, 0), 1);
+        due("just one, below", corner().odds(15, 60, 1), 1);
         due("surely above", x.odds(0, 0, 0), 1);
         due("surely below", x.odds(0, 0, 1), 1);
         due("never above", x.odds(3, 0, 0), 0);
