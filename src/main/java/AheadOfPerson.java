@@ -7,7 +7,7 @@ public final class AheadOfPerson {
     private static final int CELLS = 16, KINDS = 7, PERSONS = 6, TOWNS = 5, SIGNS = 100, BEATS = 4;
     private static final int LAST_STEP = 9999, MOST_LAIN = 99, FARTHEST = 60, NEAR_FUTURE = 30, SEEN_UNTIL = 20;
     /** What is asked goes on beyond 99, so nothing stops LAIN there. */
-    private static final int UNSTOPPED = Integer.MAX_VALUE;
+    private static final int UNSTOPPED = 1000000;
     private static final int HOPER = 1, SWEEP = 2, CROWD = 3, WAITER = 4, KING = 5, TOLD = 6;
     /** The KIND above each; a PERSON has none above and stands for itself. */
     private static final int[] ABOVE = {0, 0, 0, 0, HOPER, SWEEP, CROWD};
@@ -973,8 +973,7 @@ public final class AheadOfPerson {
         static final int STEP_GOES = 0, ONE_IS_AWAY = 1, ONE_IS_NOT = 2, CARPET_IS_PUT = 3;
         /** STEP modulo this is all that a TEST sees of it. */
         private static final int PHASES = 10;
-        /** To its own CELL and those NEXT to it, the first by number first. */
-        private static final int[] STRIDES = {-4, -1, 0, 1, 4};
+        private static final int[] STRIDES_TO_NEXT = {-4, -1, 1, 4};
 
         final Folk folk = new Folk();
         final Carpet carpet = new Carpet();
@@ -1055,14 +1054,15 @@ public final class AheadOfPerson {
         void go(int mostLain) {
             reckon();
             int best = carpet.cell;
-            int greatest = Integer.MIN_VALUE;
-            for (int i = 0; i < STRIDES.length; i++) {
-                int cell = carpet.cell + STRIDES[i];
-                if (!isCell(cell) || far(carpet.cell, cell) > 1) {
+            int greatest = draw(best);
+            for (int i = 0; i < STRIDES_TO_NEXT.length; i++) {
+                int cell = carpet.cell + STRIDES_TO_NEXT[i];
+                // A stride may lead out of the town, or from the end of a ROW to the next one.
+                if (!isCell(cell) || far(carpet.cell, cell) != 1) {
                     continue;
                 }
                 int draw = draw(cell);
-                if (draw > greatest) {
+                if (draw > greatest || draw == greatest && cell < best) {
                     greatest = draw;
                     best = cell;
                 }

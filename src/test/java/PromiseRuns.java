@@ -364,6 +364,13 @@ public final class PromiseRuns {
         holds("!(p=1|p=1)", 0, 0);
         holds("!(!(c=3|c=4)&!(c=5))", 5, 1);
         holds("!(!(c=3|c=4)&!(c=5))", 6, 0);
+        String deep = "c=15|p=1&(c=14|p=1&(c=13|p=1&(c=12|p=1&(c=11|p=1&(c=10|p=1&c=9)))))";
+        for (int c = 0; c < 16; c++) {
+            holds(deep, c, c > 8 ? 1 : 0);
+        }
+        holds("p=1|!(p=1|!(p=1|!p=0&p=1)&p=1)&p=1", 0, 1);
+        holds("p=0|!(p=0|!(p=0|p=0&p=1)&p=1)&p=1", 0, 0);
+        holds("p=0|!(p=0|!(p=0|p=1&p=1)&p=1)&p=1", 0, 1);
     }
 
     private static void lines() {
