@@ -1160,7 +1160,6 @@ public final class AheadOfPerson {
             kind = folk.kind[person];
             v = folk.v[person];
             number = person;
-            ran = 0;
             return run(act, kind, x, 0);
         }
 

@@ -1115,22 +1115,26 @@ public final class PromiseRuns {
         x.act(0, 0, 1);
     }
 
+    /** Some 60 calls, for an object is good for 512. */
     private static String all(AheadOfPerson x) {
         StringBuilder all = new StringBuilder();
         for (int what = 0; what < 7; what++) {
             all.append(x.count(what)).append(' ');
         }
-        for (int what = 0; what < 50; what++) {
+        for (int what = 0; what < 4; what++) {
             all.append(x.told(what)).append(' ');
-            for (int person = 0; person < 6; person++) {
+        }
+        for (int cell = 0; cell < 16; cell++) {
+            all.append(x.told(30 + cell)).append(' ');
+        }
+        for (int person = 0; person < 3; person++) {
+            for (int what : new int[] {0, 1, 2, 3, 14, 35}) {
                 all.append(x.of(person, what)).append(' ');
             }
-        }
-        for (int n = 0; n <= 10; n++) {
-            all.append(x.on(n, 0)).append(' ').append(x.doors(n)).append(' ');
+            all.append(x.doors(person)).append(' ');
         }
         all.append(x.met(0)).append(' ').append(x.met(1)).append(' ').append(x.looked()).append(' ');
-        return all.append(x.done(0)).append(' ').append(x.done(1)).toString();
+        return all.append(x.on(9, 0)).append(' ').append(x.done(0)).append(' ').append(x.done(1)).toString();
     }
 
     private static void counts() {
