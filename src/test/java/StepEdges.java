@@ -233,6 +233,10 @@ public final class StepEdges {
         x.move(0, 0);
         x.away(1, true);
         Edge.is("0 would be the first", x.call(3), 3);
+        // Whoever is beside CELL 12 is beside another CELL, too, to which it goes; one below the last ROW would not be.
+        x = Edge.made("bored 0;hope 50 f=1", 0, 0, 0);
+        x.lay(8);
+        Edge.is("no CELL behind the last is asked", x.call(12), NEVER);
         x = Edge.made("bored 0", 0, 0, 15, 1, 0, 15, 1, 0, 15);
         Edge.is("as soon as it is: none by fewer", x.call(1), NEVER);
         Edge.is("off its way: to CELL 4, for 0 to 3 do not do", x.call(4), 4);

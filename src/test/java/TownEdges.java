@@ -129,6 +129,14 @@ public final class TownEdges {
         Edge.is("is the third", x.told(1), 7);
         Edge.is("two of bored, the last is 0", Edge.town(x, "bored 5;bored 0"), 3);
         Edge.is("is 0", x.told(1), 0);
+        Edge.same("a FAULT, but for THE TAPE", TownEdges::withoutTape, y -> Edge.town(y, "hope 9 c=1&"), -21);
+        Edge.same("a FAULT of no signs", TownEdges::withoutTape, AheadOfPerson::town, -10);
+    }
+
+    private static AheadOfPerson withoutTape() {
+        AheadOfPerson x = Edge.rich();
+        x.town();
+        return x;
     }
 
     /** -1: it is a TOWN. */
