@@ -106,6 +106,31 @@ final class Edge {
         return x;
     }
 
+    /** STEP is 9999; PERSON 0 in CELL 3 draws it to 1, to 2, to 3 by s being 9, 0, 1, then to where it is. */
+    static AheadOfPerson oldWithSteps() {
+        AheadOfPerson x = old();
+        town(x, "bored 0;hope 50 c=1&s=9;hope 50 c=2&s=0;hope 50 c=3&s=1");
+        x.person(0, 0, 3);
+        return x;
+    }
+
+    /** THE CARPET is on a CELL whose LAIN is 99 (PERSONS are SWEEPS or KINGS beside it); the TOWN holds from then on. */
+    static AheadOfPerson worn(int cell, String town, int... persons) {
+        AheadOfPerson x = made("bored 0;hope 99 c=" + cell, persons);
+        x.lay(cell);
+        x.pass(60);
+        x.pass(39);
+        if (x.told(2) != cell || x.told(30 + cell) != 99 || town(x, town) != 1) {
+            throw new IllegalStateException(town);
+        }
+        return x;
+    }
+
+    /** SWEEP 0 holds it in CELL 0 till LAIN of that is 101, not 99: so behind 3 STEPS it goes to CELL 1. */
+    static AheadOfPerson wornOff() {
+        return worn(0, "bored 1;hope 94 c=0", 2, 0, 1);
+    }
+
     /** Something of all, and room for more of all: 5 PERSONS, of whom 3 is a TOLD one and 2 AWAY, and an older IMAGE. */
     static AheadOfPerson rich() {
         AheadOfPerson x = made("bored 3;hope 9 c=5&s<7;shy 4 k=1|f>4", 0, 1, 15, 1, 6, 10, 4, 9, 3, 6, 4, 12);

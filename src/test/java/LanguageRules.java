@@ -5,6 +5,7 @@ import com.sun.source.tree.LambdaExpressionTree;
 import com.sun.source.tree.MemberReferenceTree;
 import com.sun.source.tree.MethodInvocationTree;
 import com.sun.source.tree.MethodTree;
+import com.sun.source.tree.NewArrayTree;
 import com.sun.source.tree.NewClassTree;
 import com.sun.source.tree.SynchronizedTree;
 import com.sun.source.tree.ThrowTree;
@@ -41,6 +42,12 @@ public final class LanguageRules {
         "int person(int,int,int)", "int plan(int,int)", "int see(int,int)", "int soonest(int,int)", "int sought()",
         "int told(int)", "int town()", "int trace(int)", "int undo()", "int walk(int)", "long mean(int,int)",
         "long odds(int,int,int)"};
+    /** What the class takes of the library, all of it told in LANGUAGE.md's rule 4; Object's constructor is no choice. */
+    private static final Set<String> LIBRARY = Set.of(
+        "java.lang.Object.Object()", "java.lang.String.length()", "java.lang.String.charAt(int)",
+        "java.lang.String.indexOf(int)", "java.lang.Math.abs(int)", "java.lang.Math.max(int,int)",
+        "java.lang.Math.min(int,int)", "java.lang.Integer.bitCount(int)",
+        "java.lang.System.arraycopy(java.lang.Object,int,java.lang.Object,int,int)");
     private static int wrong = 0;
 
     private static void rule(boolean kept, String broken) {
@@ -110,6 +117,7 @@ public final class LanguageRules {
         private final SourcePositions positions;
         private final TreeMap<String, TreeSet<String>> calls = new TreeMap<>();
         private String method = "";
+        private boolean isConstructor = false;
         private int classes = 0;
 
         Look(Trees trees, CompilationUnitTree unit) {
@@ -144,6 +152,7 @@ public final class LanguageRules {
             boolean isPublic = tree.getModifiers().getFlags().contains(javax.lang.model.element.Modifier.PUBLIC);
             boolean isOfFace = List.of(FACE).stream().anyMatch(f -> f.contains(" " + tree.getName() + "("));
             rule(isPublic == isOfFace || tree.getReturnType() == null, method + " bears the name of a public one");
+            isConstructor = tree.getReturnType() == null;
             super.visitMethod(tree, none);
             method = outer;
             return null;
@@ -157,12 +166,26 @@ public final class LanguageRules {
 
         @Override
         public Void visitNewClass(NewClassTree tree, Void none) {
+            made();
             called(trees.getElement(getCurrentPath()));
             return super.visitNewClass(tree, none);
         }
 
+        @Override
+        public Void visitNewArray(NewArrayTree tree, Void none) {
+            made();
+            return super.visitNewArray(tree, none);
+        }
+
+        /** All calls of one run share a room: so rows are made with the object, and used again by every call. */
+        private void made() {
+            rule(method.isEmpty() || isConstructor, method + " makes an object or an array");
+        }
+
         private void called(Element element) {
             boolean isCode = element.getKind() == ElementKind.METHOD || element.getKind() == ElementKind.CONSTRUCTOR;
+            boolean isOwn = name(element).startsWith("AheadOfPerson.");
+            rule(isOwn || LIBRARY.contains(name(element)), method + " calls " + name(element));
             if (isCode && !method.isEmpty()) {
                 calls.get(method).add(name(element));
             }

@@ -361,6 +361,10 @@ public final class PlanEdges {
         x.person(0, 0, 0);
         Edge.is("is what undo comes back to", x.undo(), 2);
         Edge.is("and not the older one", x.undo(), 2);
+        x.act(0, LOOKS, 0);
+        x.image();
+        Edge.is("THE TRACE stays", x.trace(1), 1);
+        Edge.is("and how many ran", x.count(7), 2);
     }
 
     private static AheadOfPerson imaged() {

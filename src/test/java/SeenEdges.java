@@ -85,6 +85,8 @@ public final class SeenEdges {
         Edge.is("from this STEP on, not from its begin", walkedThenPassed().met(0), 0);
         AheadOfPerson old = Edge.old();
         Edge.is("beyond STEP 9999", walked(old, 1, 1, 0).met(0), 2);
+        Edge.is("beyond STEP 9999, by s", walked(Edge.oldWithSteps(), 12, 12, 12, 3).met(0), 3);
+        Edge.is("beyond LAIN 99", walked(Edge.wornOff(), 12, 12, 12, 1).met(0), 3);
     }
 
     private static AheadOfPerson walkedThenPassed() {
@@ -109,6 +111,8 @@ public final class SeenEdges {
         Edge.town(still, "bored 0");
         Edge.is("it stays: FOLLOWED behind 1", walked(still, 0, 0).met(1), 1);
         Edge.is("it stays: MET now", still.met(0), 0);
+        Edge.is("FOLLOWED beyond STEP 9999, by s", walked(Edge.oldWithSteps(), 12, 12, 3).met(1), 3);
+        Edge.is("FOLLOWED beyond LAIN 99", walked(Edge.wornOff(), 12, 12, 1).met(1), 3);
     }
 
     private static void see() {
@@ -187,6 +191,19 @@ public final class SeenEdges {
         x.see(1, 1);
         x.see(15, 20);
         Edge.is("beyond STEP 9999", x.doors(0), 1 << 15);
+        Edge.is("beyond STEP 9999, by s, wherever it is", seenBySteps().doors(0), 65535);
+        // From 1 and 4 it holds it in CELL 0 till LAIN 101; from 0, 2 and 5 it draws it to CELL 1, where it stays.
+        x = Edge.wornOff();
+        x.see(1, 3);
+        Edge.is("beyond LAIN 99", x.doors(0), 1 | 1 << 1 | 1 << 2 | 1 << 4 | 1 << 5);
+    }
+
+    private static AheadOfPerson seenBySteps() {
+        AheadOfPerson x = Edge.oldWithSteps();
+        x.see(1, 1);
+        x.see(2, 2);
+        x.see(3, 3);
+        return x;
     }
 
     /** KING 0 draws it to CELL 1 by its v, which CELL 0 outdoes by LURE: 6 and more. */
@@ -229,6 +246,18 @@ public final class SeenEdges {
         x.see(1, 20);
         Edge.is("behind 20: how many", x.firm(0, 0), 3);
         Edge.is("its v stays", x.of(0, 1), 2);
+        Edge.is("beyond STEP 9999, by s: how many", seenBySteps().firm(0, 0), 10);
+        Edge.is("beyond STEP 9999, by s: the least", seenBySteps().firm(0, 1), 0);
+        x = Edge.old();
+        x.person(5, 2, 1);
+        x.see(1, 20);
+        Edge.is("beyond STEP 9999: how many", x.firm(0, 0), 3);
+        Edge.is("beyond STEP 9999: the least", x.firm(0, 1), 7);
+        x = Edge.wornOff();
+        x.see(0, 2);
+        x.see(1, 3);
+        Edge.is("beyond LAIN 99: how many", x.firm(0, 0), 10);
+        Edge.is("beyond LAIN 99: the least", x.firm(0, 1), 0);
     }
 
     private static void firmAt(String edge, AheadOfPerson x, int cell, int count, int least) {
@@ -269,6 +298,14 @@ public final class SeenEdges {
         Edge.is("SEEN now, behind 0: all", x.sought(), 63);
         x.see(1, 0);
         Edge.is("where it is not now: none", x.sought(), 0);
+        AheadOfPerson old = Edge.old();
+        old.person(0, 0, 15);
+        old.see(15, 20);
+        Edge.is("beyond STEP 9999", old.sought(), 1);
+        Edge.is("beyond STEP 9999, by s", seenBySteps().sought(), 1);
+        x = Edge.wornOff();
+        x.see(1, 3);
+        Edge.is("beyond LAIN 99", x.sought(), 1);
     }
 
     private static void fraction(String edge, AheadOfPerson x, int cell, int n, int above, int below) {
@@ -299,6 +336,11 @@ public final class SeenEdges {
         old.person(0, 0, 15);
         old.person(0, 0, 15);
         fraction("beyond STEP 9999", old, 15, 60, 1, 1);
+        old = Edge.oldWithSteps();
+        old.person(0, 0, 3);
+        fraction("beyond STEP 9999, by s", old, 3, 3, 1, 1);
+        // Either of two SWEEPS holds it in CELL 0 till LAIN 101.
+        fraction("beyond LAIN 99", Edge.worn(0, "bored 1;hope 94 c=0", 2, 0, 1, 2, 0, 4), 1, 3, 1, 1);
     }
 
     /** Six in CELL 0, of whom each that is below k has to be there so that it goes to CELL 1. */
@@ -380,6 +422,10 @@ public final class SeenEdges {
         AheadOfPerson old = Edge.old();
         old.person(0, 0, 15);
         means("beyond STEP 9999", old, 5, 1, 1);
+        means("beyond STEP 9999, by s in CELL 2", Edge.oldWithSteps(), 2, 1, 1);
+        means("beyond STEP 9999, by s in CELL 3", Edge.oldWithSteps(), 3, 0, 1);
+        means("beyond LAIN 99, by LAIN 101 still in CELL 0", Edge.wornOff(), 2, 1, 1);
+        means("beyond LAIN 99, behind that in CELL 1", Edge.wornOff(), 3, 0, 1);
     }
 
     private static void noMean() {

@@ -118,6 +118,8 @@ public final class StepEdges {
         AheadOfPerson old = Edge.old();
         old.person(0, 0, 15);
         Edge.is("beyond STEP 9999", old.finds(0), 6);
+        Edge.is("beyond STEP 9999, by s", Edge.oldWithSteps().finds(0), 3);
+        Edge.is("beyond LAIN 99", Edge.wornOff().finds(0), 3);
     }
 
     /** CELLS 11 and 14 hold it: from there, as from 7, 10 and 13, it comes to CELL 15 behind h STEPS. */
@@ -169,6 +171,14 @@ public final class StepEdges {
         AheadOfPerson old = Edge.old();
         old.person(0, 0, 15);
         Edge.is("beyond STEP 9999", old.soonest(15, 0), 11);
+        // CELL 15 draws it just by STEP 10001: from 3 it is beside that by then.
+        old = Edge.old();
+        Edge.town(old, "bored 0;shy 50 c=15&!s=1");
+        old.person(0, 0, 15);
+        Edge.is("beyond STEP 9999, by s which", old.soonest(15, 0), 3);
+        Edge.is("beyond STEP 9999, by s how many", old.soonest(15, 1), 3);
+        Edge.is("beyond LAIN 99: from CELL 0, not 2, which holds it longer", Edge.wornOff().soonest(1, 0), 0);
+        Edge.is("beyond LAIN 99 by how many", Edge.wornOff().soonest(1, 1), 3);
     }
 
     private static int soonestAt(AheadOfPerson x, int cell) {
@@ -213,6 +223,11 @@ public final class StepEdges {
         AheadOfPerson old = Edge.old();
         old.person(0, 0, 0);
         Edge.is("beyond STEP 9999", old.call(15), 15);
+        Edge.is("beyond STEP 9999, by s", Edge.oldWithSteps().call(15), 15);
+        // KING 0 draws it from 0 to 1, and on to 2 by LAIN 100 of CELL 1; by 99 it would stay.
+        AheadOfPerson worn = Edge.worn(1, "bored 1;hope 94 c=1", 5, 1, 2);
+        worn.lay(0);
+        Edge.is("beyond LAIN 99 it comes as soon as it can", worn.call(2), NEVER);
     }
 
     private static void callBy() {
@@ -287,6 +302,8 @@ public final class StepEdges {
         AheadOfPerson old = Edge.old();
         old.person(0, 0, 15);
         Edge.is("beyond STEP 9999", old.kept(15), 1);
+        Edge.is("beyond STEP 9999, by s", Edge.oldWithSteps().kept(3), 1);
+        Edge.is("beyond LAIN 99 it comes, and without 0, too", Edge.wornOff().kept(1), NEVER);
     }
 
     private static int keptAt(int h) {
